@@ -115,6 +115,10 @@ public final class TextTest {
         fault("term  ", 6);
         fault("term3", 4);
         fault("termk", 0);
+        fault("terma 3", 0);
+        fault("termz 3", 0);
+        fault("term`3", 4);
+        fault("term{3", 4);
         fault("ter 3", 0);
         fault("  foo 3", 2);
         fault("Term 3", 0);
