@@ -1132,13 +1132,13 @@ public final class NineMasters {
 
         /** The TEXT that counts for a KEY; -1: none. */
         int numberOfLaw(int key) {
-            for (int i = textCount - 1; i >= 0; i--) {
-                Text text = findText(i);
-                if (text != null && text.key == key) {
-                    return i;
+            int last = -1;
+            for (int i = 0; i < textCount && i < TEXTS_MOST; i++) {
+                if (texts[i] != null && texts[i].key == key) {
+                    last = i;
                 }
             }
-            return -1;
+            return last;
         }
 
         int daysTaken(Master master, int k) {
@@ -1443,7 +1443,7 @@ public final class NineMasters {
         }
 
         private int byteAt(int place) {
-            return within(place, size) && place < TAPE_MOST ? bytes[place] : 0;
+            return place >= 0 && place < size && place < TAPE_MOST ? bytes[place] : 0;
         }
 
         private int sortAt(int place) {
@@ -1549,17 +1549,12 @@ public final class NineMasters {
             }
             if (isInHand('(') && parens < NESTED_MOST) {
                 step();
-                return readsChain(0, parens + 1, bangs) && closes();
+                if (readsChain(0, parens + 1, bangs) && isInHand(')')) {
+                    step();
+                    return true;
+                }
             }
             return false;
-        }
-
-        private boolean closes() {
-            if (!isInHand(')')) {
-                return false;
-            }
-            step();
-            return true;
         }
 
         private boolean readsOperand() {
