@@ -10,7 +10,7 @@ public final class NineMasters {
     private static final int MASTERS_MOST = 9;
     private static final int TOWNS = 6;
     private static final int GESTURES = 10;
-    private static final int PERCENT = 100;
+    private static final int HUNDRED = 100;
     private static final int ROAD_BOUND = 10;
     private static final int COINS_BOUND = 10000;
     private static final int LAST_DAY = 9999;
@@ -87,7 +87,7 @@ public final class NineMasters {
     // ---- masters, roads
 
     public int master(int kind, int town, int gesture, int fee) {
-        if (!within(kind, KINDS) || !within(town, TOWNS) || !within(gesture, GESTURES) || !within(fee, PERCENT)) {
+        if (!within(kind, KINDS) || !within(town, TOWNS) || !within(gesture, GESTURES) || !within(fee, HUNDRED)) {
             return BAD;
         }
         int number = realm.guild.size;
@@ -147,7 +147,7 @@ public final class NineMasters {
     }
 
     private static int setFee(Master changed, int v) {
-        if (!within(v, PERCENT)) {
+        if (!within(v, HUNDRED)) {
             return BAD;
         }
         int was = changed.fee;
@@ -156,7 +156,7 @@ public final class NineMasters {
     }
 
     private static int setAge(Master changed, int v) {
-        if (!within(v, PERCENT)) {
+        if (!within(v, HUNDRED)) {
             return BAD;
         }
         int was = changed.age;
@@ -239,7 +239,7 @@ public final class NineMasters {
             learner.coins = v;
             return was;
         }
-        if (what == 3 && within(v, PERCENT)) {
+        if (what == 3 && within(v, HUNDRED)) {
             int was = learner.forgets;
             learner.forgets = v;
             return was;
@@ -526,7 +526,7 @@ public final class NineMasters {
         for (int i = 0; i < row.size; i++) {
             Master master = realm.guild.find(i);
             if (master != null && row.isNumber(i)) {
-                int fee = Math.max(0, Math.min(PERCENT - 1, row.places[i]));
+                int fee = Math.max(0, Math.min(HUNDRED - 1, row.places[i]));
                 changed += fee == master.fee ? 0 : 1;
                 master.fee = fee;
             }
@@ -813,8 +813,8 @@ public final class NineMasters {
             switch (kind) {
                 case STRICT: return fee + 11;
                 case STERN: return 2 * (fee + 11);
-                case KINDLY: return PERCENT - 1 - fee;
-                case MILD: return PERCENT - 1 - fee - 4;
+                case KINDLY: return HUNDRED - 1 - fee;
+                case MILD: return HUNDRED - 1 - fee - 4;
                 case SLY: return 8;
                 default: return fee;
             }
@@ -872,10 +872,10 @@ public final class NineMasters {
             for (int i = 0; i < size; i++) {
                 Master master = find(i);
                 if (master != null && !master.dead) {
-                    if (draw() % PERCENT < master.age - 50) {
+                    if (draw() % HUNDRED < master.age - 50) {
                         master.dead = true;
                     } else {
-                        master.age = Math.min(PERCENT - 1, master.age + 1);
+                        master.age = Math.min(HUNDRED - 1, master.age + 1);
                     }
                 }
             }
@@ -933,7 +933,7 @@ public final class NineMasters {
             return leadsTo(this, 0, wanted);
         }
 
-        /** Each step brings one more GESTURE for good: what is UNLEARNT could not come again, with one MASTER for each. */
+        /** Each step brings one GESTURE for good: with one MASTER for each, what is UNLEARNT could not come again. */
         private static boolean leadsTo(Guild guild, int known, int wanted) {
             if (known == wanted) {
                 return true;
@@ -1144,7 +1144,7 @@ public final class NineMasters {
         int daysTaken(Master master, int k) {
             Text law = findText(numberOfLaw(TERM_KEY));
             int plain = law == null ? 3 + k : law.workOut(k, master.gesture, master.age);
-            return master.daysFrom(Math.max(1, Math.min(PERCENT - 1, plain)));
+            return master.daysFrom(Math.max(1, Math.min(HUNDRED - 1, plain)));
         }
 
         int fameOf(Master master) {
