@@ -111,6 +111,9 @@ public final class BoundsOfApprenticeTest {
                 B.is(2 * days, p, "go", 0);
                 B.is(0, p, "apprentice", 0);
             }
+            Played direct = new Played().then("road", 0, 1, 9).then("road", 0, 2, 1).then("road", 2, 1, 1);
+            B.is(2, direct, "far", 0, 1);
+            B.is(9, direct, "go", 1);
         });
         B.sentence("TO USE a GESTURE that it KNOWS: its REST is 0; then one DAY goes by.", () -> {
             Played p = new Played().master(SLY, 0).then("learn", 0).then("rests", 50).then("has", FORGETS, 1);
@@ -192,6 +195,11 @@ public final class BoundsOfApprenticeTest {
             B.is(1 << 9, p, "learn", 1);
             B.is(1, p, "knows", 9, 0);
             B.is(0, p, "knows", 9, 1);
+            Played anew = new Played().master(SLY, 9).master(SLY, 9).then("learn", 0).then("has", 3, 1).then("rests", 2);
+            B.is(NO, anew, "knows", 9, 1);
+            B.is(1 << 9, anew, "learn", 1);
+            B.is(1, anew, "knows", 9, 0);
+            B.is(0, anew, "knows", 9, 1);
         });
         B.sentence("TO LEARN of a MASTER in the TOWN where it is AT (not DEAD, that TEACHES one who KNOWS what it KNOWS, whose GESTURE it does not KNOW",
                 BoundsOfApprenticeTest::cannotLearn);

@@ -87,6 +87,20 @@ public final class BoundsOfChairsTest {
         B.is(17, p, "far", 0, 1);
         p.then("road", 1, 2, 0);
         B.is(NONE, p, "far", 0, 1);
+        overEachTown();
+    }
+
+    private static void overEachTown() {
+        for (int over = 0; over < 6; over++) {
+            int one = (over + 1) % 6;
+            int other = (over + 2) % 6;
+            Played p = new Played().then("road", one, over, 4).then("road", over, other, 5);
+            B.is(9, p, "far", one, other);
+            B.is(9, p, "far", other, one);
+            B.is(9, p.then("road", one, other, 9), "far", one, other);
+            B.is(8, p.then("road", one, other, 8), "far", one, other);
+            B.is(8, p, "far", other, one);
+        }
     }
 
     private static void soonest() {
@@ -96,6 +110,12 @@ public final class BoundsOfChairsTest {
                 soonestIs(p, 6, 0, 0);
                 soonestIs(p.then("learn", 0), 0, 0, NONE);
             }
+            Played changing = new Played().then("wants", 0).master(MASTER, 0);
+            soonestIs(changing, 3, 0, 0);
+            soonestIs(changing.then("turns", 0, STRICT), 6, 0, 0);
+            changing.text("term 99");
+            soonestIs(changing, 198, 0, 0);
+            soonestIs(changing.then("turns", 0, SLY).then("set", 0, 4, 9), 1, 9, 0);
         });
         B.sentence("if it goes by FAR to a MASTER and LEARNS there, again and again (4 times at most, each as told above, COINS too, nothing else done)",
                 () -> {
@@ -147,10 +167,20 @@ public final class BoundsOfChairsTest {
             p.call("road", town, town + 1, 9);
         }
         soonestIs(p, 46, 0, 0);
+        soonestIs(p.then("road", 0, 2, 9), 37, 0, 0);
+        soonestIs(p.then("road", 0, 2, 0), 46, 0, 0);
+        Played round = new Played().then("wants", 0).then("master", SLY, 5, 0, 0).then("road", 0, 5, 9);
+        soonestIs(round, 10, 0, 0);
+        soonestIs(round.then("road", 0, 4, 4).then("road", 4, 5, 4), 9, 0, 0);
         soonestIs(p.then("set", 0, 6, 1), NONE, NONE, NONE);
         soonestIs(p.then("set", 0, 6, 0).then("road", 5, 4, 0), NONE, NONE, NONE);
         B.is(0, p, "count", 2);
         B.is(0, p, "apprentice", 0);
+        Played away = new Played().then("wants", 0).then("road", 0, 5, 4).then("master", SLY, 5, 0, 0);
+        soonestIs(away, 5, 0, 0);
+        soonestIs(away.then("go", 5), 1, 0, 0);
+        Played there = new Played().then("wants", 0).then("road", 0, 5, 4).master(SLY, 0).then("go", 5);
+        soonestIs(there, 5, 0, 0);
     }
 
     /** The first of four rests for three days, and five on a road, until the last has come. */
@@ -169,6 +199,46 @@ public final class BoundsOfChairsTest {
         Played known = new Played().master(SLY, 0).master(SLY, 1).then("learn", 0).then("wants", 0).then("wants", 1);
         soonestIs(known.then("has", 3, 1), 1, 0, 1);
         soonestIs(known.then("rests", 1), 2, 0, 1);
+        forgottenOnTheRoad();
+        eachWayByItself();
+    }
+
+    /** What is forgotten by the day of arrival is neither barred nor counted there. */
+    private static void forgottenOnTheRoad() {
+        Played p = new Played().master(SLY, 0).then("master", MASTER, 1, 1, 0).then("bars", 1, 0, 0);
+        p.then("road", 0, 1, 5).then("learn", 0).then("wants", 1);
+        soonestIs(p.then("has", 3, 5), NONE, NONE, NONE);
+        soonestIs(p.then("has", 3, 4), 5 + 3, 0, 1);
+        soonestIs(p.then("bars", 1, 8, 9), 5 + 3, 0, 1);
+        soonestIs(p.then("has", 3, 5), 5 + 4, 0, 1);
+        Played oneDay = new Played().master(SLY, 0).then("master", MASTER, 1, 1, 0).then("bars", 1, 0, 0);
+        oneDay.then("road", 0, 1, 1).then("learn", 0).then("wants", 1).then("rests", 1);
+        soonestIs(oneDay.then("has", 3, 2), NONE, NONE, NONE);
+        soonestIs(oneDay.then("has", 3, 1), 1 + 3, 0, 1);
+        noDayInTheSameTown();
+    }
+
+    /** There is no going to a MASTER in the same TOWN, as with learn: no day goes by ahead of the learning. */
+    private static void noDayInTheSameTown() {
+        Played p = new Played().master(SLY, 0).master(MASTER, 1).then("bars", 1, 0, 0).then("learn", 0).then("wants", 1);
+        p.then("rests", 10).then("has", 3, 5);
+        B.is(NO, p, "learn", 1);
+        soonestIs(p, NONE, NONE, NONE);
+        p.call("bars", 1, 8, 9);
+        soonestIs(p, 4, 0, 1);
+        B.is(2, p, "learn", 1);
+        B.is(1 + 10 + 4, p, "count", 2);
+    }
+
+    /** On the way over TOWN 1 gesture 0 is learnt anew; on that right to TOWN 2 it is forgotten. */
+    private static void eachWayByItself() {
+        Played p = new Played().then("master", SLY, 1, 0, 0).then("master", SLY, 2, 1, 0).then("road", 0, 1, 2).then("road", 0, 2, 3);
+        p.master(SLY, 0).then("learn", 2).then("set", 2, 6, 1).then("rests", 5);
+        p.then("wants", 0).then("wants", 1).then("has", 3, 6);
+        soonestIs(p, 2 + 1 + 5 + 1, 0, 0);
+        soonestIs(p.then("has", 3, 5), NONE, NONE, NONE);
+        soonestIs(p.then("has", 3, 9), 3 + 1, 0, 1);
+        soonestIs(p.then("has", 3, 8), 3 + 1 + 5 + 1, 0, 1);
     }
 
     private static void ties() {

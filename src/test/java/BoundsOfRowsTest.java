@@ -36,6 +36,7 @@ public final class BoundsOfRowsTest {
             B.is(0, p, "apprentice", 3);
             B.is(Bounds.NONE, p, "far", 0, 5);
             everythingIsKept();
+            fromAndRestAreKept();
         });
         B.sentence("all can become as it is (again and again)", () -> {
             Played p = new Played().then("wants", 3).then("keep");
@@ -59,6 +60,16 @@ public final class BoundsOfRowsTest {
             String differs = new Seen(changed, part).differsFrom(new Seen(twin, part));
             B.holds("all is as the image: " + differs, differs == null);
         }
+    }
+
+    private static void fromAndRestAreKept() {
+        Played p = new Played().master(5, 9).master(5, 9).then("learn", 0).then("rests", 4).then("keep");
+        p.then("has", 3, 1).then("rests", 1).then("learn", 1);
+        B.is(1, p, "knows", 9, 0);
+        B.is(0, p, "knows", 9, 1);
+        p.call("back");
+        B.is(0, p, "knows", 9, 0);
+        B.is(4, p, "knows", 9, 1);
     }
 
     private static void yearsTold() {

@@ -124,6 +124,7 @@ public final class BoundsOfTextsTest {
             fault(7, "fine 1&&1");
             fault(7, "fine 1<>1");
         });
+        B.sentence("E, the loosest first: OR", BoundsOfTextsTest::allTwoSigns);
         B.sentence("SUM: TERM { (+ | -) TERM }; TERM: PIECE { (* | /) PIECE }", () -> {
             gives(-8, "1-2-3-4");
             gives(1, "100/5/4/5");
@@ -191,6 +192,47 @@ public final class BoundsOfTextsTest {
             p.text("fine c*d");
             B.is(9999 * 9999, p, "fine");
         });
+    }
+
+    /** Each two signs that join, with and without brackets: the tighter one joins first, of two alike the left one. */
+    private static void allTwoSigns() {
+        String signs = "|&<=>+-*/";
+        int[] tightness = {0, 1, 2, 2, 2, 3, 3, 4, 4};
+        int[] numbers = {9, 0, 2, 3, 7};
+        for (int i = 0; i < signs.length(); i++) {
+            for (int j = 0; j < signs.length(); j++) {
+                for (int n = 0; n < 3; n++) {
+                    char one = signs.charAt(i);
+                    char other = signs.charAt(j);
+                    int a = numbers[n];
+                    int b = numbers[n + 1];
+                    int c = numbers[n + 2];
+                    int left = joined(other, joined(one, a, b), c);
+                    int right = joined(one, a, joined(other, b, c));
+                    gives(left, "(" + a + one + b + ")" + other + c);
+                    gives(right, "" + a + one + "(" + b + other + c + ")");
+                    if (tightness[i] == 2 && tightness[j] == 2) {
+                        fault(8, "fine " + a + one + b + other + c);
+                    } else {
+                        gives(tightness[j] > tightness[i] ? right : left, "" + a + one + b + other + c);
+                    }
+                }
+            }
+        }
+    }
+
+    private static int joined(char sign, int a, int b) {
+        switch (sign) {
+            case '|': return a != 0 || b != 0 ? 1 : 0;
+            case '&': return a != 0 && b != 0 ? 1 : 0;
+            case '<': return a < b ? 1 : 0;
+            case '=': return a == b ? 1 : 0;
+            case '>': return a > b ? 1 : 0;
+            case '+': return a + b;
+            case '-': return a - b;
+            case '*': return a * b;
+            default: return b == 0 ? 0 : a / b;
+        }
     }
 
     private static void names() {
