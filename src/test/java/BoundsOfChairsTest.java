@@ -44,6 +44,12 @@ public final class BoundsOfChairsTest {
             B.is(0, p.then("learn", 0), "count", 5);
             B.is(1, p.then("learn", 1), "count", 5);
             B.is(0, p.then("has", 3, 1).then("rests", 1), "count", 5);
+            Played six = new Played().master(SLY, 0).master(SLY, 9).then("learn", 0).times(5, "wants", 0);
+            B.is(1, six, "count", 5);
+            B.is(0, six.then("wants", 9), "count", 5);
+            B.is(NO, six, "made");
+            soonestIs(six, 1, 0, 1);
+            B.is(1, six.then("learn", 1), "count", 5);
         });
         B.sentence("MADE (CAN): each is USED, one behind the other (one that it KNOWS no more by then is left out).", () -> {
             B.is(0, new Played(), "made");
@@ -116,6 +122,8 @@ public final class BoundsOfChairsTest {
             changing.text("term 99");
             soonestIs(changing, 198, 0, 0);
             soonestIs(changing.then("turns", 0, SLY).then("set", 0, 4, 9), 1, 9, 0);
+            Played order = new Played().then("wants", 0).then("wants", 1).master(MASTER, 0).master(STRICT, 1);
+            soonestIs(order, 6 + 4, 0, 1);
         });
         B.sentence("if it goes by FAR to a MASTER and LEARNS there, again and again (4 times at most, each as told above, COINS too, nothing else done)",
                 () -> {
@@ -199,6 +207,12 @@ public final class BoundsOfChairsTest {
         Played known = new Played().master(SLY, 0).master(SLY, 1).then("learn", 0).then("wants", 0).then("wants", 1);
         soonestIs(known.then("has", 3, 1), 1, 0, 1);
         soonestIs(known.then("rests", 1), 2, 0, 1);
+        for (int g = 0; g < 10; g++) {
+            int other = (g + 1) % 10;
+            Played rested = new Played().master(SLY, g).master(SLY, other).then("learn", 0).then("rests", 4).then("wants", g).then("wants", other);
+            soonestIs(rested.then("has", 3, 5), 1, 0, 1);
+            soonestIs(rested.then("has", 3, 4), 2, 0, 1);
+        }
         forgottenOnTheRoad();
         eachWayByItself();
     }
@@ -416,6 +430,25 @@ public final class BoundsOfChairsTest {
         B.is(1, p, "cut", 0, 1);
         p.call("mark", 0, 0, 1);
         B.is(3, p, "cut", 0, 0);
+        cutOfNine();
+        cutByTerm();
+    }
+
+    private static void cutOfNine() {
+        Played p = new Played().times(8, "master", STRICT, 0, 0, 0).then("sheet", 3, 0, 1).then("mark", 3, 0, 1);
+        B.is(0, p, "cut", 3, 0);
+        B.is(8, p.master(SLY, 0), "cut", 3, 0);
+        B.is(0, p, "cut", 3, 1);
+    }
+
+    /** Places that are no numbers are left out by themselves, and TAKES is by the TEXT that counts now. */
+    private static void cutByTerm() {
+        Played p = new Played().then("keep").master(MASTER, 0).then("sheet", 0, 1, 3);
+        p.text("term 10*k+5");
+        B.is(5 + 15 + 25, p, "cut", 0, 1);
+        B.is(15 + 25, p.then("mark", 0, 0, NONE), "cut", 0, 1);
+        B.is(15, p.then("mark", 0, 2, NONE), "cut", 0, 1);
+        B.is(5 + 15, p.then("mark", 0, 0, 0), "cut", 0, 1);
     }
 
     private static void promises19To25() {

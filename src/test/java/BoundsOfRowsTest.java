@@ -37,6 +37,7 @@ public final class BoundsOfRowsTest {
             B.is(Bounds.NONE, p, "far", 0, 5);
             everythingIsKept();
             fromAndRestAreKept();
+            chairIsKept();
         });
         B.sentence("all can become as it is (again and again)", () -> {
             Played p = new Played().then("wants", 3).then("keep");
@@ -70,6 +71,15 @@ public final class BoundsOfRowsTest {
         p.call("back");
         B.is(0, p, "knows", 9, 0);
         B.is(4, p, "knows", 9, 1);
+    }
+
+    /** The order of all six: REST tells which was used last. */
+    private static void chairIsKept() {
+        Played p = new Played().master(5, 0).master(5, 1).then("learn", 0).then("learn", 1).times(5, "wants", 0).then("wants", 1);
+        p.then("keep").then("clear").times(5, "wants", 1).then("wants", 0).then("back");
+        B.is(8, p, "made");
+        B.is(1, p, "knows", 1, 1);
+        B.is(2, p, "knows", 0, 1);
     }
 
     private static void yearsTold() {
@@ -229,6 +239,12 @@ public final class BoundsOfRowsTest {
             int[] counts = {Rich.MASTERS, 1, 11, 3, 4, 1, Rich.TEXTS, Rich.WAITING, Rich.TAPE, 99};
             for (int what = 0; what < counts.length; what++) {
                 B.is(counts[what], Rich.made(), "count", what);
+            }
+            Played p = Rich.made().then("master", 0, 0, 0, 0).then("set", 1, 6, 1).then("use", 0).then("learn", 7).then("wants", 9);
+            p.then("tell", 0).then("feed", 0, 0, 0).then("seed", MIN);
+            int[] then = {Rich.MASTERS + 1, 2, 11 + 1 + 14, 4, 5, 0, Rich.TEXTS, Rich.WAITING + 1, Rich.TAPE + 12, MIN};
+            for (int what = 0; what < then.length; what++) {
+                B.is(then[what], p, "count", what);
             }
         });
     }

@@ -121,6 +121,8 @@ public final class BoundsOfSheetsTest {
             }
             rowIs(Rich.made().then("sheet", 0, 0, 5), 0, 0, 0, 0, 0, 0);
             rowIs(Rich.made().then("sheet", 1, 1, 3), 1, 0, 0, 0);
+            placeIs(0, new Played().then("sheet", 3, 0, 24).then("mark", 3, 23, 7).then("sheet", 3, 0, 24), 3, 23);
+            placeIs(0, new Played().then("sheet", 3, 1, 24).then("mark", 3, 23, NONE).then("sheet", 3, 1, 24), 3, 23);
             rowIs(Rich.made().then("sheet", 0, 0, 2).then("sheet", 0, 0, 3), 0, 0, 0, 0);
         });
         B.sentence("A place of a SHEET becomes v (of shorts its lowest 16 bits; of floats v, -99999 .. 99999; NONE: NO NUMBER): 1.",

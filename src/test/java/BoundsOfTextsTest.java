@@ -251,6 +251,8 @@ public final class BoundsOfTextsTest {
         Played p = new Played().then("master", 0, 0, 9, 99).then("set", 0, 5, 77);
         p.text("term g*10+k");
         B.is(90, p, "told", 0, 7);
+        p.then("master", 5, 0, 1, 0).then("master", 5, 0, 2, 0).then("learn", 1).then("learn", 2);
+        B.is(92, p, "told", 0, 7);
         p.text("term a");
         B.is(77, p, "told", 0, 7);
         p.text("fame f*1000+a");
@@ -364,6 +366,10 @@ public final class BoundsOfTextsTest {
             gives(1, "!!!!!!!!((((((((1))))))))");
             gives(1, "((((((((!!!!!!!!1))))))))");
             gives(1, "!(!(!(!(!(!(!(!(1))))))))");
+            gives(2, "((((((((1+!!!!!!!!1))))))))");
+            gives(0, "((((((((0*!!!!!!!!1))))))))");
+            gives(1, "!!!!!!!!(1+(((((((1))))))))");
+            fault(23, "fine ((((((((1+!!!!!!!!!1");
             gives(0, "!1+!1+!1+!1+!1+!1+!1+!1+!1");
             fault(21, "fine ((((((((!!!!!!!!!1");
             fault(21, "fine !(!(!(!(!(!(!(!(!1");
